@@ -25,10 +25,10 @@ public final class LegBench {
 
   private final Walker now = new Walker();
   private final History history = new History();
+  private final Rows rows = new Rows();
+  private final Stride stride = rows.stride;
   // Questions are asked of a copy, so that none of them can change the walker itself.
-  private final Walker trial = new Walker();
-  private final Stride stride = new Stride(trial);
-  private final Rows rows = new Rows(trial, stride);
+  private final Walker trial = stride.body;
   private final Ratio top = new Ratio();
   private final Row steps = new Row(MOST_SETS);
 
@@ -319,7 +319,8 @@ public final class LegBench {
       return NONE;
     }
     trial.copyFrom(now);
-    if (!stride.holdsOn(from) || !stride.holdsOn(to)) {
+    stride.readPlaces();
+    if (!stride.isSound(from) || !stride.isSound(to)) {
       return NONE;
     }
     for (int set = 0; set < MOST_SETS; set++) {
@@ -424,7 +425,7 @@ public final class LegBench {
     boolean grown = false;
     int full = trial.fullSet();
     for (int other = 0; other <= full; other++) {
-      if (steps.at(other) == NONE && Integer.bitCount(set ^ other) <= m && stride.holdsOn(other)) {
+      if (steps.at(other) == NONE && stride.isSound(other) && Integer.bitCount(set ^ other) <= m) {
         steps.put(other, step);
         grown = true;
       }
@@ -594,7 +595,7 @@ public final class LegBench {
     private int count;
 
     History() {
-      for (int i = 0; i < KEPT; i++) {
+      for (int i = 0; i < states.length; i++) {
         states[i] = new Walker();
       }
     }
@@ -680,51 +681,57 @@ public final class LegBench {
 
   /** The feet of one tick, seen from the middle; each y is doubled, so that all of them are whole. */
   private static final class Span {
-    private final Row xs = new Row(MOST_LEGS);
-    private final Row ys = new Row(MOST_LEGS);
-    private int feet;
+    private final Row leftX = new Row(MOST_LEGS);
+    private final Row leftY = new Row(MOST_LEGS);
+    private final Row rightX = new Row(MOST_LEGS);
+    private final Row rightY = new Row(MOST_LEGS);
+    private int lefts;
+    private int rights;
+    // The heights at which the line through the middle is met: those of feet on it, and, once
+    // measured, those of the lines from a foot at the left to one at the right.
     private final Ratio low = new Ratio();
     private final Ratio high = new Ratio();
     private final Ratio margin = new Ratio();
 
     void empty() {
-      feet = 0;
+      lefts = 0;
+      rights = 0;
+      low.drop();
+      high.drop();
     }
 
     void add(int x, int twiceY) {
-      xs.put(feet, x);
-      ys.put(feet, twiceY);
-      feet++;
+      if (x < 0) {
+        leftX.put(lefts, x);
+        leftY.put(lefts, twiceY);
+        lefts++;
+      } else if (x > 0) {
+        rightX.put(rights, x);
+        rightY.put(rights, twiceY);
+        rights++;
+      } else {
+        widen(twiceY, 1);
+      }
     }
 
-    // Some foot, or line from a foot at the left to one at the right, passes at or below the middle,
-    // and some at or above it.
+    // Something is met at or below the middle, and something at or above it.
     boolean holdsMiddle() {
-      boolean under = false;
-      boolean over = false;
-      for (int i = 0; i < feet; i++) {
-        for (int j = 0; j < feet; j++) {
-          if (isCrossing(i, j)) {
-            int height = heightAbove(i, j);
-            under = under || height <= 0;
-            over = over || height >= 0;
-          }
-        }
-        if (under && over) {
-          return true;
+      boolean under = !low.isNone() && low.above <= 0;
+      boolean over = !high.isNone() && high.above >= 0;
+      for (int i = 0; i < lefts && !(under && over); i++) {
+        for (int j = 0; j < rights; j++) {
+          int height = heightAbove(i, j);
+          under = under || height <= 0;
+          over = over || height >= 0;
         }
       }
-      return false;
+      return under && over;
     }
 
     Ratio measure() {
-      low.drop();
-      high.drop();
-      for (int i = 0; i < feet; i++) {
-        for (int j = 0; j < feet; j++) {
-          if (isCrossing(i, j)) {
-            widen(heightAbove(i, j), heightBelow(i, j));
-          }
+      for (int i = 0; i < lefts; i++) {
+        for (int j = 0; j < rights; j++) {
+          widen(heightAbove(i, j), rightX.at(j) - leftX.at(i));
         }
       }
       margin.drop();
@@ -732,6 +739,10 @@ public final class LegBench {
         setMargin();
       }
       return margin;
+    }
+
+    private int heightAbove(int i, int j) {
+      return leftY.at(i) * rightX.at(j) - rightY.at(j) * leftX.at(i);
     }
 
     private void widen(int above, int below) {
@@ -750,41 +761,53 @@ public final class LegBench {
         margin.become(high.above, 2 * high.below);
       }
     }
-
-    private boolean isCrossing(int i, int j) {
-      return i == j ? xs.at(i) == 0 : xs.at(i) < 0 && xs.at(j) > 0;
-    }
-
-    private int heightAbove(int i, int j) {
-      return i == j ? ys.at(i) : ys.at(i) * xs.at(j) - ys.at(j) * xs.at(i);
-    }
-
-    private int heightBelow(int i, int j) {
-      return i == j ? 1 : xs.at(j) - xs.at(i);
-    }
   }
 
   /** The stances of a walker's gait: where the feet are, and whether it stands. */
   private static final class Stride {
-    private final Walker body;
+    final Walker body = new Walker();
     // How far a foot is ahead of its place, in halves of the speed; 16 ticks for each leg.
     private final Row leads = new Row(MOST_LEGS * MOST_TICKS);
     // The ticks, less one, of a leg's longest stance.
     private final Row stretches = new Row(MOST_LEGS);
+    // For each set 1, if its feet hold the middle at their places.
+    private final Row sound = new Row(MOST_SETS);
+    private boolean areFeetAtPlaces;
     private final Span span = new Span();
     final Ratio least = new Ratio();
 
-    Stride(Walker ofBody) {
-      body = ofBody;
-    }
-
     void readGait() {
+      areFeetAtPlaces = false;
       for (int i = 0; i < body.legs; i++) {
         readLeg(i);
       }
     }
 
+    // Many rows are looked at next. Without speed no foot leaves its place, and there are far fewer
+    // sets than rows and ticks.
+    void readManyGaits() {
+      readGait();
+      if (body.speed == 0) {
+        readPlaces();
+        areFeetAtPlaces = true;
+      }
+    }
+
+    void readPlaces() {
+      int full = body.fullSet();
+      for (int set = 0; set <= full; set++) {
+        sound.put(set, holdsAtPlaces(set) ? 1 : 0);
+      }
+    }
+
+    boolean isSound(int set) {
+      return sound.at(set) == 1;
+    }
+
     void readLeg(int i) {
+      if (areFeetAtPlaces) {
+        return;
+      }
       stretches.put(i, 0);
       for (int t = 0; t < body.ticks; t++) {
         leads.put(i * MOST_TICKS + t, 0);
@@ -817,7 +840,7 @@ public final class LegBench {
     }
 
     boolean isSteady() {
-      return firstBeyondReach() == NONE && firstFall() == NONE;
+      return firstFall() == NONE && firstBeyondReach() == NONE;
     }
 
     int firstBeyondReach() {
@@ -843,6 +866,9 @@ public final class LegBench {
       if (set == 0) {
         return body.kind == HOP && isShortHop(t);
       }
+      if (areFeetAtPlaces) {
+        return isSound(set);
+      }
       if (!fitsKind(set)) {
         return false;
       }
@@ -850,8 +876,7 @@ public final class LegBench {
       return span.holdsMiddle();
     }
 
-    // Whether the feet of a set, at their places, hold the middle as the kind says.
-    boolean holdsOn(int set) {
+    private boolean holdsAtPlaces(int set) {
       if (!fitsKind(set)) {
         return false;
       }
@@ -926,17 +951,12 @@ public final class LegBench {
 
   /** The regular rows of a walker, one after the other in THE ORDER, each laid as its gait. */
   private static final class Rows {
-    private final Walker body;
-    private final Stride stride;
+    final Stride stride = new Stride();
+    private final Walker body = stride.body;
     private final Row offsets = new Row(MOST_LEGS);
     // A bit for each row, to keep the room small.
     private final Row steady = new Row(MOST_ROWS / 32 + 1);
     private int up;
-
-    Rows(Walker ofBody, Stride ofStride) {
-      body = ofBody;
-      stride = ofStride;
-    }
 
     // The first row is laid: how many there are.
     int start(int n, int u) {
@@ -945,7 +965,7 @@ public final class LegBench {
         offsets.put(i, 0);
       }
       body.layRow(n, u, 0);
-      stride.readGait();
+      stride.readManyGaits();
       return rowsOf(n, body.legs);
     }
 

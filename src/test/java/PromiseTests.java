@@ -268,6 +268,12 @@ public final class PromiseTests {
     due("its twin", x.about(34), -100);
     x.leg(4, 3, 8);
     due("a leg at another y", x.about(34), -100);
+    LegBench y = of(3, 0);
+    y.leg(2, -3, 1);
+    y.leg(1, 3, 1);
+    due("only leg 0 has no twin", y.about(7), 0);
+    y.leg(0, 0, 1);
+    due("all have twins", y.about(7), 1);
   }
 
   private static void down() {
@@ -576,6 +582,13 @@ public final class PromiseTests {
       yes("walks", y.walks());
       due("rank", y.rank(4, 1), k);
     }
+    // The middle is on leg 0 and on the line of legs 1 and 2: the very last row stands, too.
+    LegBench z = new LegBench();
+    z.leg(0, 0, 2);
+    due("many", z.many(2, 1), 2);
+    yes("the last row", z.pick(2, 1, 1));
+    rowIs(z, 14, 1);
+    due("rank", z.rank(2, 1), 1);
   }
 
   private static void rank() {
