@@ -760,7 +760,12 @@ public final class PromiseTests {
     due("no way", w.way(1, 2, 1), -1);
     w.middle(0, 4);
     due("way", w.way(2, 3, 1), 1);
-    due("way", of(8, 0).way(255, 0x99, 1), 4);
+    LegBench v = of(8, 0);
+    due("way", v.way(255, 0x99, 1), 4);
+    v.walker(4, 0);
+    due("a set of legs that were", v.way(255, 255, 1), -1);
+    due("a set of legs that were", v.way(15, 255, 8), -1);
+    due("a set of legs that were", v.way(255, 15, 8), -1);
   }
 
   private static void undo() {
