@@ -925,9 +925,10 @@ public final class LegBench {
       span.add(body.xs.at(i) - body.middleX, twiceY - 2 * body.middleY);
     }
 
-    // A last leg without a second one of its pair is never one of two that are down.
+    // The last of an odd number of legs has no second one, so nothing is asked of it.
     private boolean fitsKind(int set) {
-      return body.kind != BOUND || (set & 0x55) == (set >> 1 & 0x55);
+      int firstsOfPairs = 0x55 & (body.fullSet() >> 1);
+      return body.kind != BOUND || (set & firstsOfPairs) == (set >> 1 & firstsOfPairs);
     }
 
     private boolean isShortHop(int t) {

@@ -333,7 +333,7 @@ public final class OracleTests {
     }
 
     boolean pairsHold(int set) {
-      for (int i = 0; i < 8; i += 2) {
+      for (int i = 0; i + 1 < k; i += 2) {
         if ((set >> i & 1) != (set >> i + 1 & 1)) {
           return false;
         }

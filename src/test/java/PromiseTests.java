@@ -384,10 +384,30 @@ public final class PromiseTests {
     x.middle(0, 0);
     standsOn(x, 15, 3);
     fallsOn(x, 0, 7, 11, 12);
-    // The last of five legs has no second one of its pair.
+    standsBoundOdd();
+  }
+
+  // The last of an odd number of legs has no second one, so it is not bound to another one.
+  private static void standsBoundOdd() {
+    LegBench x = of(3, 2);
+    due("three legs, all down", x.why(), -1);
+    due("three legs, all down", x.loads(2), 4);
+    due("three legs, all down", x.loads(0), 7);
+    standsOn(x, 7);
+    fallsOn(x, 0, 1, 2, 3, 4, 5, 6);
+    x.middle(-3, 4);
+    standsOn(x, 4, 7);
+    fallsOn(x, 5, 6);
     LegBench y = of(5, 2);
-    standsOn(y, 15);
-    fallsOn(y, 31, 16, 19);
+    standsOn(y, 12, 15, 19, 28, 31);
+    // With 18 and with 22 the middle is in the span, but legs 0 and 1 are parted.
+    fallsOn(y, 0, 3, 16, 18, 22, 23, 27, 29, 30);
+    LegBench z = of(7, 2);
+    standsOn(z, 60, 63, 64 + 3, 64 + 15, 64 + 60, 127);
+    fallsOn(z, 15, 64, 64 + 7, 64 + 62, 64 + 31);
+    z.walker(8, 2);
+    standsOn(z, 63, 255);
+    fallsOn(z, 127, 191);
   }
 
   private static void walks() {
@@ -553,6 +573,11 @@ public final class PromiseTests {
     due("for three", y.many(8, 3), 0);
     LegBench z = of(6, 2);
     due("in pairs", z.many(3, 1), 4);
+    LegBench odd = of(5, 2);
+    due("two pairs, and a leg that is not up with legs 2 and 3", odd.many(3, 1), 4);
+    yes("the last of them", odd.pick(3, 1, 3));
+    rowIs(odd, 28, 15, 19);
+    due("the last of them", odd.rank(3, 1), 3);
     due("too many rows", z.many(5, 1), -1);
     due("not too many", of(6, 0).many(4, 3), 0);
     due("7 to the 4 are 2401", of(5, 0).many(7, 6), 0);
@@ -750,6 +775,13 @@ public final class PromiseTests {
     due("pairs", y.way(3, 15, 1), -1);
     due("pairs", y.way(3, 15, 2), 1);
     due("no pairs", y.way(7, 15, 2), -1);
+    LegBench odd = of(5, 2);
+    due("the last leg alone", odd.way(12, 28, 1), 1);
+    due("two pairs and the last leg", odd.way(12, 19, 2), 3);
+    due("two pairs and the last leg", odd.way(12, 19, 3), 2);
+    due("two pairs and the last leg", odd.way(12, 19, 5), 1);
+    due("no pair by one leg at a tick", odd.way(12, 31, 1), -1);
+    due("legs 0 and 1 are parted", odd.way(31, 18, 8), -1);
     LegBench z = of(4, 1);
     due("the empty one", z.way(15, 0, 8), -1);
     due("the empty one", z.way(0, 15, 8), -1);
