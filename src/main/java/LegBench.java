@@ -637,11 +637,6 @@ public final class LegBench {
       below = 0;
     }
 
-    void become(long newAbove, long newBelow) {
-      above = newAbove;
-      below = newBelow;
-    }
-
     void copyFrom(Ratio other) {
       above = other.above;
       below = other.below;
@@ -655,12 +650,19 @@ public final class LegBench {
       return above * other.below < other.above * below;
     }
 
-    boolean isOver(long otherAbove, long otherBelow) {
-      return above * otherBelow > otherAbove * below;
+    // Where there was none, any number is the new least and the new greatest one.
+    void lowerTo(long otherAbove, long otherBelow) {
+      if (below == 0 || above * otherBelow > otherAbove * below) {
+        above = otherAbove;
+        below = otherBelow;
+      }
     }
 
-    boolean isUnder(long otherAbove, long otherBelow) {
-      return above * otherBelow < otherAbove * below;
+    void raiseTo(long otherAbove, long otherBelow) {
+      if (below == 0 || above * otherBelow < otherAbove * below) {
+        above = otherAbove;
+        below = otherBelow;
+      }
     }
 
     void shorten() {
@@ -710,7 +712,8 @@ public final class LegBench {
         rightY.put(rights, twiceY);
         rights++;
       } else {
-        widen(twiceY, 1);
+        low.lowerTo(twiceY, 1);
+        high.raiseTo(twiceY, 1);
       }
     }
 
@@ -731,35 +734,23 @@ public final class LegBench {
     Ratio measure() {
       for (int i = 0; i < lefts; i++) {
         for (int j = 0; j < rights; j++) {
-          widen(heightAbove(i, j), rightX.at(j) - leftX.at(i));
+          int height = heightAbove(i, j);
+          int width = rightX.at(j) - leftX.at(i);
+          low.lowerTo(height, width);
+          high.raiseTo(height, width);
         }
       }
       margin.drop();
       if (!low.isNone()) {
-        setMargin();
+        // Twice below, since the heights are doubled ones.
+        margin.lowerTo(-low.above, 2 * low.below);
+        margin.lowerTo(high.above, 2 * high.below);
       }
       return margin;
     }
 
     private int heightAbove(int i, int j) {
       return leftY.at(i) * rightX.at(j) - rightY.at(j) * leftX.at(i);
-    }
-
-    private void widen(int above, int below) {
-      if (low.isNone() || low.isOver(above, below)) {
-        low.become(above, below);
-      }
-      if (high.isNone() || high.isUnder(above, below)) {
-        high.become(above, below);
-      }
-    }
-
-    // Twice below, since the heights are doubled ones.
-    private void setMargin() {
-      margin.become(-low.above, 2 * low.below);
-      if (margin.isOver(high.above, 2 * high.below)) {
-        margin.become(high.above, 2 * high.below);
-      }
     }
   }
 
@@ -772,7 +763,8 @@ public final class LegBench {
     private final Row stretches = new Row(MOST_LEGS);
     // For each set 1, if its feet hold the middle at their places.
     private final Row sound = new Row(MOST_SETS);
-    private boolean areFeetAtPlaces;
+    // Whether that row may be used instead of the feet of each tick, until a gait is read again.
+    boolean areFeetAtPlaces;
     private final Span span = new Span();
     final Ratio least = new Ratio();
 
@@ -780,16 +772,6 @@ public final class LegBench {
       areFeetAtPlaces = false;
       for (int i = 0; i < body.legs; i++) {
         readLeg(i);
-      }
-    }
-
-    // Many rows are looked at next. Without speed no foot leaves its place, and there are far fewer
-    // sets than rows and ticks.
-    void readManyGaits() {
-      readGait();
-      if (body.speed == 0) {
-        readPlaces();
-        areFeetAtPlaces = true;
       }
     }
 
@@ -883,7 +865,7 @@ public final class LegBench {
       span.empty();
       for (int i = 0; i < body.legs; i++) {
         if ((set >> i & 1) == 1) {
-          addFoot(i, 2 * body.ys.at(i));
+          span.add(body.xs.at(i) - body.middleX, 2 * (body.ys.at(i) - body.middleY));
         }
       }
       return span.holdsMiddle();
@@ -916,13 +898,9 @@ public final class LegBench {
       span.empty();
       for (int i = 0; i < body.legs; i++) {
         if (body.isDown(i, t)) {
-          addFoot(i, twiceY(i, t));
+          span.add(body.xs.at(i) - body.middleX, twiceY(i, t) - 2 * body.middleY);
         }
       }
-    }
-
-    private void addFoot(int i, int twiceY) {
-      span.add(body.xs.at(i) - body.middleX, twiceY - 2 * body.middleY);
     }
 
     // The last of an odd number of legs has no second one, so nothing is asked of it.
@@ -966,7 +944,12 @@ public final class LegBench {
         offsets.put(i, 0);
       }
       body.layRow(n, u, 0);
-      stride.readManyGaits();
+      stride.readGait();
+      // Without speed no foot leaves its place, and there are far fewer sets than rows and ticks.
+      if (body.speed == 0) {
+        stride.readPlaces();
+        stride.areFeetAtPlaces = true;
+      }
       return rowsOf(n, body.legs);
     }
 

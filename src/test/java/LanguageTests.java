@@ -1,3 +1,6 @@
+import java.io.File;
+import java.io.PrintWriter;
+import java.io.StringWriter;
 import java.lang.reflect.Constructor;
 import java.lang.reflect.Field;
 import java.lang.reflect.Method;
@@ -5,10 +8,13 @@ import java.lang.reflect.Modifier;
 import java.nio.file.Files;
 import java.nio.file.Path;
 import java.util.List;
+import java.util.Map;
 import java.util.Set;
+import java.util.TreeMap;
 import java.util.TreeSet;
 import java.util.regex.Matcher;
 import java.util.regex.Pattern;
+import java.util.spi.ToolProvider;
 
 /** What of LANGUAGE.md and of the room can be seen by a machine: the face, words that are ruled out, sizes. */
 public final class LanguageTests {
@@ -25,6 +31,7 @@ public final class LanguageTests {
     face();
     nestedClasses();
     words(code);
+    depth();
     room();
     neverThrows();
     System.out.println(wrong == 0 ? "the language is kept" : wrong + " rules are not kept");
@@ -100,6 +107,54 @@ public final class LanguageTests {
       longest = Math.max(longest, line.startsWith("      ") ? since : 0);
     }
     check(longest <= 60, "methods of some sixty lines at most: " + longest);
+  }
+
+  // Each method with those that it calls, of the class's own code, as javap tells them.
+  private static Map<String, Set<String>> calls() throws Exception {
+    ToolProvider javap = ToolProvider.findFirst("javap").orElseThrow();
+    Path place = Path.of(LegBench.class.getProtectionDomain().getCodeSource().getLocation().toURI());
+    Map<String, Set<String>> calls = new TreeMap<>();
+    for (File file : place.toFile().listFiles((folder, name) -> name.matches("LegBench(\\$\\w+)?\\.class"))) {
+      String owner = file.getName().replace(".class", "");
+      StringWriter text = new StringWriter();
+      javap.run(new PrintWriter(text), new PrintWriter(System.err), "-c", "-p", file.getPath());
+      addCalls(owner, text.toString(), calls);
+    }
+    return calls;
+  }
+
+  private static void addCalls(String owner, String text, Map<String, Set<String>> calls) {
+    Pattern head = Pattern.compile("  \\S.*?([\\w$]+)\\(.*\\);");
+    Pattern call = Pattern.compile("// (?:Interface)?Method (?:([\\w$]+)\\.)?\"?([\\w<>]+)\"?:");
+    String from = "";
+    for (String line : text.split("\\R")) {
+      Matcher h = head.matcher(line);
+      Matcher c = call.matcher(line);
+      if (h.matches()) {
+        from = owner + "." + (h.group(1).equals(owner) ? "<init>" : h.group(1));
+        calls.putIfAbsent(from, new TreeSet<>());
+      } else if (c.find() && calls.containsKey(from)) {
+        calls.get(from).add((c.group(1) == null ? owner : c.group(1)) + "." + c.group(2));
+      }
+    }
+  }
+
+  // The public call counts as the first level; a recursion would go beyond any bound, so it is cut off.
+  private static int depthOf(String method, Map<String, Set<String>> calls, int open) {
+    int deepest = 0;
+    for (String next : open > 20 ? Set.<String>of() : calls.getOrDefault(method, Set.of())) {
+      deepest = Math.max(deepest, depthOf(next, calls, open + 1));
+    }
+    return deepest + 1;
+  }
+
+  private static void depth() throws Exception {
+    Map<String, Set<String>> calls = calls();
+    check(depthOf("LegBench.down", calls, 1) == 2, "the calls can be read");
+    for (Method m : LegBench.class.getDeclaredMethods()) {
+      int deep = depthOf("LegBench." + m.getName(), calls, 1);
+      check(deep <= 8, "calls at most eight deep: " + m.getName() + " goes " + deep);
+    }
   }
 
   private static long allocated() {
