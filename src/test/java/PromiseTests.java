@@ -694,8 +694,10 @@ public final class PromiseTests {
     long below = y.worst(1);
     int many = y.many(4, 1);
     for (int k = 0; k < many; k++) {
-      y.pick(4, 1, k);
-      long more = y.worst(0) * below - above * y.worst(1);
+      // A new one each time: an object is used for 512 calls at most.
+      LegBench z = of(6, 0);
+      z.pick(4, 1, k);
+      long more = z.worst(0) * below - above * z.worst(1);
       if (k < found ? more >= 0 : more > 0) {
         due("row " + k + " is better than " + found, 1, 0);
       }
