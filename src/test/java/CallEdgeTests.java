@@ -322,6 +322,16 @@ public final class CallEdgeTests extends EdgeTools {
         due("margin(" + t + ", 1) of " + n, x.margin(t, 1), -10000);
       }
     }
+    sentence("Promise 13", "Whether the GAIT STANDS");
+    yes("at first", new LegBench().walks());
+    LegBench far = oneStance(16, 0, 15);
+    far.pace(1, 7);
+    yes("at each tick, and all within REACH", far.walks());
+    far.pace(1, 6);
+    no("at each tick, but beyond REACH", far.walks());
+    far.pace(0, 0);
+    far.tick(15, 0);
+    no("not at the last tick", far.walks());
     why();
     marginsAndWorsts();
     fastest();
@@ -490,6 +500,11 @@ public final class CallEdgeTests extends EdgeTools {
     refuses("the one after the last", x -> bit(x.pick(4, 1, x.many(4, 1))), 0);
     yes("the last", new LegBench().pick(4, 1, 20));
     no("the one after it", new LegBench().pick(4, 1, 21));
+    LegBench last = of(3, 0);
+    last.leg(0, 0, 2);
+    yes("the very last of all rows, which alone stands", last.pick(2, 1, 0));
+    due("its first tick", last.down(0), 6);
+    due("its last tick", last.down(1), 1);
     sentence("Promise 19", "The k-th of these becomes the GAIT");
     int[] row = shortRow(4, 0);
     int[] sets = {6, 9, 15, 15};
@@ -541,7 +556,9 @@ public final class CallEdgeTests extends EdgeTools {
 
   private static void unlike() {
     sentence("Promise 21", "a row and its MIRROR .. counted once");
-    due("unlike", new LegBench().unlike(4, 1), 12);
+    LegBench twice = new LegBench();
+    due("unlike", twice.unlike(4, 1), 12);
+    due("unlike, asked again", twice.unlike(4, 1), 12);
     due("each is its own", groups(3).unlike(6, 5), 1);
     sentence("Promise 21", "if that is one of them");
     due("many", made(EdgeTools::crossBound).many(3, 1), 4);

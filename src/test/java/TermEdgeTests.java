@@ -7,6 +7,11 @@ import java.util.List;
  * is allowed, the first one that is not, at each end; and after a refused call, that nothing is done.
  */
 public final class TermEdgeTests extends EdgeTools {
+  /** What is looked at in the rows of a scene's walker. */
+  private interface RowTest {
+    void on(Scene scene, int n, int u);
+  }
+
   public static void main(String[] args) {
     use();
     term1();
@@ -559,6 +564,15 @@ public final class TermEdgeTests extends EdgeTools {
     no("3 ticks over the end", y.walks());
     lay(y, 15, 15, 15, 7);
     no("LEG 3 alone", y.walks());
+    sentence("Term 2", "for each STANCE (of a LEG that there is, not of one that was)");
+    LegBench z = of(8, 0);
+    lay(z, 255, 255, 255 - 16);
+    z.pace(9, 0);
+    due("LEG 4 of eight", z.why(), 104);
+    z.walker(4, 0);
+    z.pace(9, 0);
+    due("there are four", z.why(), -1);
+    yes("there are four", z.walks());
   }
 
   private static void leastReach(int v, int len) {
@@ -721,7 +735,7 @@ public final class TermEdgeTests extends EdgeTools {
     upTicks();
     fewEnoughRows();
     tooManyRows();
-    theOrder();
+    rowsOneByOne();
   }
 
   // Two LEGS that HOP: the row with both up at once STANDS, and no other one.
@@ -857,21 +871,31 @@ public final class TermEdgeTests extends EdgeTools {
     due("5 to the 5 are 3125", of(6, 0).many(5, 1), -1);
   }
 
-  // Every row laid by itself, and all that is told of rows worked out from what it tells then.
-  private static void theOrder() {
-    sentence("Term 3", "THE ORDER: by the offsets of LEG 1, then LEG 2 .., the lesser first; and its MIRROR");
-    allRows(EdgeTools::fresh, 2, 1);
-    allRows(EdgeTools::fresh, 4, 1);
-    allRows(EdgeTools::fresh, 5, 1);
-    allRows(EdgeTools::fresh, 5, 2);
-    allRows(x -> x.pace(1, 10), 4, 1);
-    allRows(x -> x.middle(1, 2), 5, 1);
-    allRows(x -> x.walker(3, 1), 8, 1);
-    allRows(x -> groupsOn(x, 1), 6, 4);
-    allRows(x -> groupsOn(x, 0), 4, 2);
-    allRows(EdgeTools::busy, 3, 1);
-    allRows(EdgeTools::crossBound, 3, 1);
-    allRows(x -> x.walker(5, 2), 3, 1);
+  // Every row is laid by itself, and what is told of all rows is worked out from what it tells then.
+  private static void rowsOneByOne() {
+    sentence("Term 3", "THE ORDER: by the offsets of LEG 1, then LEG 2 .., the lesser first");
+    onRows(TermEdgeTests::areNumbered);
+    onRows(TermEdgeTests::arePicked);
+    sentence("Term 3", "MIRROR of a row: each LEG has its TWIN's offset, all less that of LEG 0, modulo N");
+    onRows((scene, n, u) ->
+        due(told("unlike", n, u), made(scene).unlike(n, u), unlikeOf(scene, n, standing(scene, n, u))));
+    sentence("Promise 22", "The first of those with the greatest WORST (of each walker's rows, one by one)");
+    onRows(TermEdgeTests::hasBest);
+  }
+
+  private static void onRows(RowTest test) {
+    test.on(EdgeTools::fresh, 2, 1);
+    test.on(EdgeTools::fresh, 4, 1);
+    test.on(EdgeTools::fresh, 5, 1);
+    test.on(EdgeTools::fresh, 5, 2);
+    test.on(x -> x.pace(1, 10), 4, 1);
+    test.on(x -> x.middle(1, 2), 5, 1);
+    test.on(x -> x.walker(3, 1), 8, 1);
+    test.on(x -> groupsOn(x, 1), 6, 4);
+    test.on(x -> groupsOn(x, 0), 4, 2);
+    test.on(EdgeTools::busy, 3, 1);
+    test.on(EdgeTools::crossBound, 3, 1);
+    test.on(x -> x.walker(5, 2), 3, 1);
   }
 
   private static void groupsOn(LegBench x, int kind) {
@@ -883,45 +907,71 @@ public final class TermEdgeTests extends EdgeTools {
     x.middle(0, 0);
   }
 
-  private static void allRows(Scene scene, int n, int u) {
-    int k = made(scene).about(0);
-    int count = (int) Math.pow(n, k - 1);
-    List<Integer> standing = new ArrayList<>();
-    int best = -1;
-    long above = 0;
-    long below = 1;
-    for (int r = 0; r < count; r++) {
-      LegBench x = made(scene);
-      yes("regular", x.regular(n, u, packed(offsetsOf(r, n, k))));
-      due("rank of row " + r, x.rank(n, u), x.walks() ? standing.size() : -1);
-      if (x.walks()) {
-        if (best < 0 || x.worst(0) * below > above * x.worst(1)) {
-          best = standing.size();
-          above = x.worst(0);
-          below = x.worst(1);
-        }
-        standing.add(r);
-      }
+  private static int rowsOf(Scene scene, int n) {
+    int rows = 1;
+    for (int i = 1; i < made(scene).about(0); i++) {
+      rows *= n;
     }
-    due(told("many", n, u), made(scene).many(n, u), standing.size());
-    due(told("unlike", n, u), made(scene).unlike(n, u), unlikeOf(scene, n, standing));
-    LegBench x = made(scene);
-    due(told("best", n, u), x.best(n, u), best);
-    due(told("rank", n, u) + " of the best", best < 0 ? -1 : x.rank(n, u), best);
-    picks(scene, n, u, standing);
+    return rows;
   }
 
-  private static void picks(Scene scene, int n, int u, List<Integer> standing) {
-    int k = made(scene).about(0);
+  // The walker of a scene with a row as its GAIT, the rows numbered in THE ORDER.
+  private static LegBench withRow(Scene scene, int n, int u, int row) {
+    LegBench x = made(scene);
+    yes("regular", x.regular(n, u, packed(offsetsOf(row, n, x.about(0)))));
+    return x;
+  }
+
+  private static List<Integer> standing(Scene scene, int n, int u) {
+    List<Integer> standing = new ArrayList<>();
+    int rows = rowsOf(scene, n);
+    for (int row = 0; row < rows; row++) {
+      if (withRow(scene, n, u, row).walks()) {
+        standing.add(row);
+      }
+    }
+    return standing;
+  }
+
+  private static void areNumbered(Scene scene, int n, int u) {
+    List<Integer> standing = standing(scene, n, u);
+    due(told("many", n, u), made(scene).many(n, u), standing.size());
+    int rows = rowsOf(scene, n);
+    for (int row = 0; row < rows; row++) {
+      due("rank of row " + row, withRow(scene, n, u, row).rank(n, u), standing.indexOf(row));
+    }
+  }
+
+  private static void arePicked(Scene scene, int n, int u) {
+    List<Integer> standing = standing(scene, n, u);
     for (int number = 0; number < standing.size(); number++) {
       LegBench x = made(scene);
       yes(told("pick", n, u, number), x.pick(n, u, number));
-      LegBench y = made(scene);
-      y.regular(n, u, packed(offsetsOf(standing.get(number), n, k)));
+      LegBench y = withRow(scene, n, u, standing.get(number));
       same(told("pick", n, u, number), state(x).toString(), state(y).toString());
     }
     for (int number : new int[] {LEAST, -1, standing.size(), standing.size() + 1, MOST}) {
       refuses(scene, told("pick", n, u, number), x -> bit(x.pick(n, u, number)), 0);
+    }
+  }
+
+  private static void hasBest(Scene scene, int n, int u) {
+    List<Integer> standing = standing(scene, n, u);
+    int best = -1;
+    long above = 0;
+    long below = 1;
+    for (int number = 0; number < standing.size(); number++) {
+      LegBench x = withRow(scene, n, u, standing.get(number));
+      if (best < 0 || x.worst(0) * below > above * x.worst(1)) {
+        best = number;
+        above = x.worst(0);
+        below = x.worst(1);
+      }
+    }
+    LegBench x = made(scene);
+    due(told("best", n, u), x.best(n, u), best);
+    if (best >= 0) {
+      same("the GAIT", state(x).toString(), state(withRow(scene, n, u, standing.get(best))).toString());
     }
   }
 
@@ -999,8 +1049,11 @@ public final class TermEdgeTests extends EdgeTools {
       due("to " + set, bit(x.way(15, set, 4) >= 0), holds ? 1 : 0);
     }
     sentence("Term 4", "at each set (those on the way, too)");
-    due("6 to 9 not by 4 or 2 or 0", x.way(6, 9, 1), 4);
-    due("6 to 9 by 15", x.way(6, 9, 2), 2);
+    LegBench pairs = of(6, 2);
+    pairs.middle(0, 4);
+    due("no half of a pair on the way", pairs.way(12, 51, 3), 3);
+    due("none at all", pairs.way(12, 51, 1), -1);
+    due("two pairs, then one", pairs.way(12, 51, 4), 2);
     sentence("Term 4", "the feet, at their PLACES (not where a GAIT has them)");
     LegBench y = oneStance(16, 0, 15);
     y.pace(9, 0);
