@@ -34,6 +34,7 @@ public final class CallEdgeTests extends EdgeTools {
         same("all that was", trace(x), trace(made(EdgeTools::busy)));
       }
     }
+    nothingIsLeft();
     sentence("Promise 2", "false, and nothing is done, if that can't be (both)");
     refuses("walker(1, 3)", x -> bit(x.walker(1, 3)), 0);
     refuses("walker(9, -1)", x -> bit(x.walker(9, -1)), 0);
@@ -53,6 +54,45 @@ public final class CallEdgeTests extends EdgeTools {
     refuses("pace(-1, -1)", x -> bit(x.pace(-1, -1)), 0);
     refuses("pace(9, 41)", x -> bit(x.pace(9, 41)), 0);
     refuses("pace(10, 40)", x -> bit(x.pace(10, 40)), 0);
+  }
+
+  // What a walker with more legs, ticks and speed had is not seen later, either, when there is room for it again.
+  private static void nothingIsLeft() {
+    sentence("Promise 2", "all as at first (in all calls that come later, too)");
+    for (int k = 2; k <= 8; k++) {
+      for (int kind = 0; kind <= 2; kind++) {
+        for (int n = 2; n <= 8; n++) {
+          LegBench x = made(CallEdgeTests::grown);
+          yes(told("walker", k, kind), x.walker(k, kind));
+          same("rows of " + n + ", K " + k + ", KIND " + kind, later(x, n), later(of(k, kind), n));
+        }
+      }
+    }
+  }
+
+  private static void grown(LegBench x) {
+    x.walker(8, 2);
+    for (int i = 0; i < 8; i++) {
+      x.leg(i, 20 - i, 20);
+    }
+    x.middle(16, 20);
+    x.pace(9, 40);
+    x.gait(0, 16, -1, -1, -1, 0xffffff);
+    x.many(3, 1);
+    x.unlike(2, 1);
+    x.way(255, 15, 8);
+    x.worst(0);
+  }
+
+  private static String later(LegBench x, int n) {
+    StringBuilder text = new StringBuilder();
+    for (int u : new int[] {1, n - 1}) {
+      text.append(x.regular(n, u, 0x11001010)).append(state(x)).append(x.why()).append(x.worst(0));
+      text.append(' ').append(x.many(n, u)).append(' ').append(x.unlike(n, u)).append(' ').append(x.rank(n, u));
+      text.append(x.pick(n, u, 1)).append(state(x)).append(x.best(n, u)).append(state(x)).append(x.loads(2));
+      text.append(' ').append(x.without(1, n, u)).append(' ').append(x.way(3, 15, 2)).append(' ').append(x.fastest());
+    }
+    return text.append(x.gait(0, 2 * n, 0, 0, 0, 0)).append(state(x)).toString();
   }
 
   private static void legs() {

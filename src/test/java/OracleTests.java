@@ -25,8 +25,11 @@ public final class OracleTests {
     final LegBench bench = new LegBench();
     final Oracle oracle = new Oracle();
     final StringBuilder told = new StringBuilder();
+    // In every second run the middle is mostly amid the legs and the pace is slow, so that more rows stand.
+    final boolean calm;
 
     Run(int seed) {
+      this.calm = seed % 2 == 1;
       this.seed = seed;
       this.random = new Random(seed);
     }
@@ -105,13 +108,17 @@ public final class OracleTests {
           return same("leg(" + i + ", " + x + ", " + y + ")", bit(bench.leg(i, x, y)), bit(oracle.leg(i, x, y)));
         }
         case 3: {
+          if (calm && random.nextInt(5) != 0) {
+            x = (int) Math.round(Arrays.stream(oracle.s.xs).average().orElse(0));
+            y = (int) Math.round(Arrays.stream(oracle.s.ys).average().orElse(0));
+          }
           if (random.nextBoolean()) {
             x = 0;
           }
           return same("middle(" + x + ", " + y + ")", bit(bench.middle(x, y)), bit(oracle.middle(x, y)));
         }
         case 4: {
-          int v = random.nextInt(3) == 0 ? 0 : near(0, 9);
+          int v = random.nextInt(3) == 0 ? 0 : near(0, calm ? 2 : 9);
           int r = near(0, 40);
           return same("pace(" + v + ", " + r + ")", bit(bench.pace(v, r)), bit(oracle.pace(v, r)));
         }
@@ -141,7 +148,7 @@ public final class OracleTests {
 
     int[] words() {
       int[] w = new int[4];
-      int dense = random.nextInt(3);
+      int dense = calm ? 1 + random.nextInt(2) : random.nextInt(3);
       for (int i = 0; i < 4; i++) {
         w[i] = random.nextInt();
         if (dense == 1) {
